@@ -1,0 +1,139 @@
+/** Promises 19, 20 and 26: counts, settings and the hash. */
+public final class LookPromisesTest {
+    private static final Class<IndexOutOfBoundsException> INDEX = IndexOutOfBoundsException.class;
+    private static final Class<IllegalArgumentException> ARGUMENT = IllegalArgumentException.class;
+    private static final Check CHECK = new Check("LookPromisesTest");
+
+    private LookPromisesTest() {
+    }
+
+    public static void main(String[] args) {
+        promise19();
+        promise20();
+        promise26();
+        CHECK.end();
+    }
+
+    private static FoldedVoices busy() {
+        FoldedVoices x = new FoldedVoices();
+        x.set(2, 1);
+        Texts.type(x, "0:14,20,-30,40;1:500,600;2:7,8,9;l0;d0;x2;d2;d2");
+        x.talk();
+        x.set(2, 2);
+        x.say(1, 100);
+        x.set(0, 2);
+        x.say(1, -100);
+        return x;
+    }
+
+    private static void promise19() {
+        FoldedVoices x = busy();
+        // Said: nine and two; codes: nine and one; came: one, and two of which one is late.
+        int[] due = {11, 10, 9, 5, 1, 3, 1, 6};
+        for (int what = 0; what <= 7; what++) {
+            if (what != 6 && what != 7) {
+                CHECK.due("19: count(" + what + ")", x.count(what), due[what]);
+            }
+        }
+        int agreeing = 0;
+        for (int voice = 0; voice < 3; voice++) {
+            agreeing += x.why(voice) == 0 ? 1 : 0;
+        }
+        CHECK.due("19: those that agree", x.count(6), agreeing);
+        CHECK.note(agreeing == 1 || agreeing == 2, "19: some should agree, others not");
+        CHECK.due("19: saved", x.count(7), 6);
+        CHECK.dueThrow("19: what 8", x, ARGUMENT, () -> x.count(8));
+        CHECK.dueThrow("19: what -1", x, ARGUMENT, () -> x.count(-1));
+        x.undo();
+        CHECK.due("19: samples behind undo", x.count(0), 10);
+    }
+
+    private static void promise20() {
+        FoldedVoices x = new FoldedVoices();
+        int[] values = {3, 77, 6, 8};
+        for (int setting = 0; setting < 4; setting++) {
+            x.set(setting, values[setting]);
+        }
+        for (int setting = 0; setting < 4; setting++) {
+            CHECK.due("20: setting(" + setting + ")", x.setting(setting), values[setting]);
+        }
+        CHECK.dueThrow("20: setting 4", x, INDEX, () -> x.setting(4));
+        CHECK.dueThrow("20: setting -1", x, INDEX, () -> x.setting(-1));
+    }
+
+    private static void promise26() {
+        FoldedVoices[] objects = {new FoldedVoices(), busy(), Texts.typed("0:!"), new FoldedVoices()};
+        objects[3].say(1, 5);
+        objects[3].keep();
+        for (int i = 0; i < objects.length; i++) {
+            long due = hashOf(objects[i], i == 3, i == 2 ? "0:!" : "");
+            CHECK.due("26: digest of " + i, objects[i].digest(), due);
+            CHECK.due("26: again", objects[i].digest(), due);
+        }
+        sharesOfManyKinds();
+    }
+
+    /** Means and shares with many bits, as the library tells these bits. */
+    private static void sharesOfManyKinds() {
+        FoldedVoices x = new FoldedVoices();
+        x.set(2, 1);
+        for (int i = 0; i < 12; i++) {
+            x.say(i % 3, (i * 311) % 4001 - 2000);
+            if (i % 4 == 1) {
+                x.lose(i % 3);
+            } else {
+                x.deliver(i % 3);
+            }
+            CHECK.due("26: digest with shares", x.digest(), hashOf(x, false, ""));
+        }
+    }
+
+    private static long hash;
+
+    private static void mix(long value) {
+        hash = 31 * hash + value;
+    }
+
+    private static long hashOf(FoldedVoices x, boolean hasSnapshot, String buffer) {
+        hash = 3637;
+        for (int what = 0; what <= 7; what++) {
+            mix(x.count(what));
+        }
+        for (int setting = 0; setting <= 3; setting++) {
+            mix(x.setting(setting));
+        }
+        for (int voice = 0; voice < 3; voice++) {
+            mixVoice(x, voice);
+        }
+        mix(Float.floatToIntBits(x.lostShare()));
+        mix(hasSnapshot ? 1 : 0);
+        mix(buffer.length());
+        for (int i = 0; i < buffer.length(); i++) {
+            mix(buffer.charAt(i));
+        }
+        return hash;
+    }
+
+    private static void mixVoice(FoldedVoices x, int voice) {
+        for (int what = 0; what <= 9; what++) {
+            mix(x.saying(voice, what));
+        }
+        for (int what = 0; what <= 11; what++) {
+            mix(x.hearing(voice, what));
+        }
+        for (int rank = 0; rank < x.saying(voice, 9); rank++) {
+            for (int what = 0; what <= 5; what++) {
+                mix(x.packet(voice, rank, what));
+            }
+        }
+        mix(x.why(voice));
+        for (int what = 0; what <= 4; what++) {
+            mix(x.code(voice, 100, what));
+        }
+        mix(x.settles(voice, -500, 50));
+        for (int what = 0; what <= 3; what++) {
+            mix(x.ifDelivered(voice, what));
+        }
+        mix(Double.doubleToLongBits(x.meanError(voice)));
+    }
+}
