@@ -71,6 +71,60 @@ public final class LookPromisesTest {
             CHECK.due("26: again", objects[i].digest(), due);
         }
         sharesOfManyKinds();
+        smallShares();
+        manyGuesses();
+        nearTheSampleOfTheHash(-501, 50);
+        nearTheSampleOfTheHash(-499, 50);
+        nearTheSampleOfTheHash(-500, 51);
+        nearTheSampleOfTheHash(-500, 49);
+    }
+
+    private static void smallShares() {
+        FoldedVoices x = new FoldedVoices();
+        x.set(2, 1);
+        x.say(0, 1);
+        x.lose(0);
+        for (int i = 0; i < 40; i++) {
+            // What is said is what the code 0 leads to, so that the errors are small.
+            int step = x.saying(1, 2);
+            x.say(1, x.saying(1, 0) + step / 8 + (i % 16 == 0 ? 1 : 0));
+            x.deliver(1);
+            CHECK.due("26: digest with small shares", x.digest(), hashOf(x, false, ""));
+        }
+        CHECK.note(x.meanError(1) > 0.0 && x.meanError(1) < 0.1, "26: the mean error should be small");
+        CHECK.note(x.lostShare() < 0.1f, "26: the share should be small");
+    }
+
+    /** Guesses from which another sample, or another near, would settle behind other codes. */
+    private static void nearTheSampleOfTheHash(int otherSample, int otherNear) {
+        int seen = 0;
+        for (int sample = -2000; sample <= 2000 && seen < 3; sample++) {
+            FoldedVoices x = new FoldedVoices();
+            x.say(0, 7 * sample % 2001);
+            x.say(0, 37 * sample % 2001);
+            x.say(0, 119 * sample % 2001);
+            x.say(0, 501 * sample % 2001);
+            x.say(0, sample);
+            if (x.settles(0, -500, 50) != x.settles(0, otherSample, otherNear)) {
+                seen++;
+                CHECK.due("26: digest near -500", x.digest(), hashOf(x, false, ""));
+            }
+        }
+        CHECK.note(seen > 0, "26: no guess tells " + otherSample + " and " + otherNear + " apart");
+    }
+
+    private static void manyGuesses() {
+        for (int sample = -2000; sample <= 2000; sample += 16) {
+            FoldedVoices x = new FoldedVoices();
+            x.say(0, sample);
+            x.say(0, sample);
+            x.say(0, sample / 2);
+            x.say(1, sample);
+            x.say(1, sample);
+            x.say(1, sample);
+            x.say(1, sample / 3);
+            CHECK.due("26: digest behind " + sample, x.digest(), hashOf(x, false, ""));
+        }
     }
 
     /** Means and shares with many bits, as the library tells these bits. */

@@ -104,6 +104,11 @@ public final class TextPromisesTest {
         }
         CHECK.due("11: the buffer is cleared", x.clearBuffer(), 0);
         CHECK.due("11: saved once", x.count(7), 1);
+        FoldedVoices two = new FoldedVoices();
+        two.set(2, 1);
+        Texts.type(two, "2:1,2;x2;d2");
+        CHECK.due("11: just two wait", two.talk(), 4);
+        CHECK.due("11: the second came", two.hearing(2, 3), 2);
         deliversLosesAndSwaps();
     }
 
@@ -195,6 +200,13 @@ public final class TextPromisesTest {
         y.say(0, 14);
         y.undo();
         CHECK.dueThrow("13: no snapshot", y, STATE, y::goBack);
+        y.set(0, 2);
+        y.say(0, 14);
+        y.say(0, 14);
+        y.say(1, 14);
+        CHECK.due("12: samples, not codes", y.keep(), 3);
+        y.say(1, 14);
+        CHECK.due("13: samples, not codes", y.goBack(), 3);
         keepsAll();
     }
 
@@ -237,6 +249,7 @@ public final class TextPromisesTest {
             CHECK.due("14: the state " + i, x.digest(), digests[i]);
         }
         CHECK.dueThrow("14: none is left", x, STATE, x::undo);
+        restoresWhatSamplesAndHeadsLeave();
         FoldedVoices y = new FoldedVoices();
         y.append('0');
         y.keep();
@@ -246,6 +259,27 @@ public final class TextPromisesTest {
         y.undo();
         CHECK.due("14: the buffer stays", y.clearBuffer(), 2);
         CHECK.due("14: the snapshot stays", y.goBack(), 1);
+    }
+
+    private static void restoresWhatSamplesAndHeadsLeave() {
+        FoldedVoices x = new FoldedVoices();
+        x.set(0, 3);
+        x.say(0, 14);
+        x.say(0, 20);
+        x.undo();
+        CHECK.due("14: gathered samples", x.saying(0, 3), 1);
+        CHECK.due("14: their sum", x.saying(0, 4), 14);
+        FoldedVoices y = new FoldedVoices();
+        y.set(2, 1);
+        Texts.type(y, "0:1,2,3");
+        y.talk();
+        y.say(0, 4);
+        CHECK.due("14: the fourth packet has a head", y.packet(0, 3, 2), 1);
+        y.undo();
+        y.say(0, 4);
+        CHECK.due("14: and has it again", y.packet(0, 3, 2), 1);
+        y.say(0, 5);
+        CHECK.due("14: the fifth has none", y.packet(0, 4, 2), 0);
     }
 
     private static void promise14Drops() {

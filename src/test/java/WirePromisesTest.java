@@ -16,6 +16,7 @@ public final class WirePromisesTest {
         promise4Throws();
         promise5();
         promise6();
+        wireIsUsedAgain();
         promise7();
         promise16();
         promise17();
@@ -181,6 +182,25 @@ public final class WirePromisesTest {
         CHECK.dueThrow("6: voice -1", x, INDEX, () -> x.swap(-1));
     }
 
+    /** Packets keep apart, however often the wire was full. */
+    private static void wireIsUsedAgain() {
+        FoldedVoices x = withPackets(1, 8, 1);
+        for (int round = 0; round < 9; round++) {
+            x.deliver(1);
+            x.lose(1);
+            x.say(1, 100 * round);
+            x.say(1, -150 * round);
+            x.swap(1);
+            x.swap(1);
+            for (int rank = 0; rank < 8; rank++) {
+                CHECK.due("6: number at " + rank, x.packet(1, rank, 0), 2 * round + 2 + rank);
+                CHECK.due("6: codes at " + rank, x.packet(1, rank, 1), 1);
+            }
+        }
+        CHECK.due("6: lost", x.hearing(1, 11), 9);
+        CHECK.due("6: missing", x.hearing(1, 5), 8);
+    }
+
     private static void promise7() {
         FoldedVoices x = new FoldedVoices();
         int[] first = {1, 0, 4, 3};
@@ -341,6 +361,14 @@ public final class WirePromisesTest {
         int guess = x.ifDelivered(0, 0);
         x.say(0, 2000);
         CHECK.due("23: gathered codes are not heard", x.ifDelivered(0, 0), guess);
+        FoldedVoices y = withPackets(2, 8, 3);
+        y.lose(2);
+        y.lose(2);
+        y.lose(2);
+        y.deliver(2);
+        CHECK.due("23: a jump and three missing ones are no more", y.hearing(2, 7) * 10 + y.hearing(2, 5), 13);
+        CHECK.due("23: none missing in those that wait", y.ifDelivered(2, 2), 0);
+        CHECK.due("23: no jumps in those that wait", y.ifDelivered(2, 3), 0);
         CHECK.dueThrow("23: voice 3 and what", x, INDEX, () -> x.ifDelivered(3, 4));
         CHECK.dueThrow("23: voice -1", x, INDEX, () -> x.ifDelivered(-1, 0));
         CHECK.dueThrow("23: what 4", x, ARGUMENT, () -> x.ifDelivered(0, 4));
@@ -352,6 +380,7 @@ public final class WirePromisesTest {
         CHECK.dueDouble("24: nothing heard", x.meanError(1), 0.0);
         CHECK.dueDouble("25: none lost", x.lostShare(), 0.0f);
         x.deliver(1);
+        CHECK.dueDouble("24: 1", x.meanError(1), 1.0);
         x.deliver(1);
         CHECK.dueDouble("24: 1 and 4", x.meanError(1), 2.5);
         x.deliver(1);
@@ -367,5 +396,9 @@ public final class WirePromisesTest {
         CHECK.dueDouble("25: one of six", x.lostShare(), 1.0f / 6.0f);
         x.lose(2);
         CHECK.dueDouble("25: two of six, of two voices", x.lostShare(), 2.0f / 6.0f);
+        FoldedVoices y = new FoldedVoices();
+        Texts.type(y, "0:1,2,3,4,5;l0");
+        y.talk();
+        CHECK.dueDouble("25: of packets, not of codes; one of one", y.lostShare(), 1.0f);
     }
 }
