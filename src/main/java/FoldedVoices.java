@@ -134,7 +134,7 @@ public final class FoldedVoices {
         int done = 0;
         for (int i = 0; i < text.length && text.readDeed(); i++) {
             Voice doer = voiceOf(text.voice);
-            if (!canDo(text.deed, doer, text.sample)) {
+            if (!canDo(text.deed, doer)) {
                 break;
             }
             doDeed(text.deed, doer, text.sample);
@@ -275,7 +275,7 @@ public final class FoldedVoices {
     }
 
     private static void requireSample(int sample) throws IllegalArgumentException {
-        if (!isSample(sample)) {
+        if (sample < -FARTHEST || sample > FARTHEST) {
             throw new IllegalArgumentException("the sample is out of range");
         }
     }
@@ -290,10 +290,6 @@ public final class FoldedVoices {
         if (voice.waiting < least) {
             throw new IllegalStateException("too few packets wait");
         }
-    }
-
-    private static boolean isSample(int sample) {
-        return sample >= -FARTHEST && sample <= FARTHEST;
     }
 
     // ---- deeds
@@ -319,14 +315,14 @@ public final class FoldedVoices {
         savedCount = saved.length - 1;
     }
 
-    private boolean canDo(char deed, Voice doer, int sample) {
+    private boolean canDo(char deed, Voice doer) {
         if (deed == 'd' || deed == 'l') {
             return doer.waiting >= 1;
         }
         if (deed == 'x') {
             return doer.waiting >= 2;
         }
-        return isSample(sample) && doer.canTake(live.settings);
+        return doer.canTake(live.settings);
     }
 
     private void doDeed(char deed, Voice doer, int sample) {
@@ -977,8 +973,6 @@ public final class FoldedVoices {
     /** The buffer, where its first wrong character is, and the deeds that it tells. */
     private static final class TalkText {
         private static final int ROOM = 60;
-        // Beyond all samples, and small enough that ten times it is still an int.
-        private static final int TOO_FAR = 9999;
 
         private static final int WRONG = -1;
         private static final int AT_PART = 0;
@@ -992,6 +986,8 @@ public final class FoldedVoices {
 
         private final char[] signs = new char[ROOM];
         private int length;
+        // How far the grammar got when the buffer was looked through the last time.
+        private int latestStand;
         private int place;
         private char deed;
         private int voice;
@@ -1017,10 +1013,13 @@ public final class FoldedVoices {
         }
 
         int firstWrongPlace() {
-            int stand = AT_PART;
+            latestStand = AT_PART;
+            int number = 0;
             for (int i = 0; i < length; i++) {
-                stand = standBehind(stand, signAt(i));
-                if (stand == WRONG) {
+                char sign = signAt(i);
+                number = isDigit(sign) ? 10 * number + sign - '0' : 0;
+                latestStand = standBehind(latestStand, sign, number);
+                if (latestStand == WRONG) {
                     return i;
                 }
             }
@@ -1028,14 +1027,12 @@ public final class FoldedVoices {
         }
 
         boolean isComplete() {
-            int stand = AT_PART;
-            for (int i = 0; i < length; i++) {
-                stand = standBehind(stand, signAt(i));
-            }
-            return stand == BEHIND_ZERO || stand == IN_NUMBER || stand == BEHIND_DEED;
+            return firstWrongPlace() == length
+                    && (latestStand == BEHIND_ZERO || latestStand == IN_NUMBER || latestStand == BEHIND_DEED);
         }
 
-        private static int standBehind(int stand, char sign) {
+        // The number is that of the digits up to the sign: no sample begins with one beyond all samples.
+        private static int standBehind(int stand, char sign, int number) {
             switch (stand) {
                 case AT_PART:
                     if (isVoice(sign)) {
@@ -1054,7 +1051,7 @@ public final class FoldedVoices {
                 case BEHIND_ZERO:
                     return behindSample(sign);
                 case IN_NUMBER:
-                    return isDigit(sign) ? IN_NUMBER : behindSample(sign);
+                    return isDigit(sign) ? inNumberIf(number <= FARTHEST) : behindSample(sign);
                 case BEHIND_LETTER:
                     return isVoice(sign) ? BEHIND_DEED : WRONG;
                 case BEHIND_DEED:
@@ -1120,7 +1117,7 @@ public final class FoldedVoices {
             }
             int number = 0;
             for (; place < length && isDigit(signAt(place)); place++) {
-                number = Math.min(10 * number + signAt(place) - '0', TOO_FAR);
+                number = 10 * number + signAt(place) - '0';
             }
             sample = isBelow ? -number : number;
         }

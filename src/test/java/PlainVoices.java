@@ -6,7 +6,7 @@ import java.util.regex.Pattern;
 /** The document once more, told in another way: all that happened is kept, and each answer is told from it. */
 final class PlainVoices {
     static final int NONE = -10000;
-    private static final String SAMPLE = "(?:0|-?[1-9][0-9]*)";
+    private static final String SAMPLE = "(?:0|-?(?:[1-9][0-9]{0,2}|1[0-9]{3}|2000))";
     private static final String PART = "(?:[0-2]:" + SAMPLE + "(?:," + SAMPLE + ")*|[dlx][0-2])";
     private static final Pattern TALK = Pattern.compile(PART + "(?:;" + PART + ")*");
 
@@ -345,7 +345,7 @@ final class PlainVoices {
                     continue;
                 }
                 for (String sample : part.substring(2).split(",")) {
-                    sayIn(part.charAt(0) - '0', sample.length() > 8 ? 1000000 : Integer.parseInt(sample));
+                    sayIn(part.charAt(0) - '0', Integer.parseInt(sample));
                     done++;
                 }
             }

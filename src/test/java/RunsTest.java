@@ -82,6 +82,12 @@ public final class RunsTest {
         }
     }
 
+    // One that is no sample spoils its whole text, so such ones are rarer in texts.
+    private int textSample() {
+        int sample = sample();
+        return rarely() ? sample : Math.max(-2000, Math.min(2000, sample));
+    }
+
     private void step() {
         int voice = voice();
         switch (random.nextInt(20)) {
@@ -143,9 +149,9 @@ public final class RunsTest {
             if (random.nextInt(3) > 0) {
                 text.append("dlx".charAt(pick(0, 2))).append(pick(0, 2));
             } else {
-                text.append(pick(0, 2)).append(':').append(sample());
+                text.append(pick(0, 2)).append(':').append(textSample());
                 for (int more = pick(0, 8); more > 0; more--) {
-                    text.append(',').append(sample());
+                    text.append(',').append(textSample());
                 }
             }
             text.append(part > 1 ? ";" : "");
@@ -159,7 +165,10 @@ public final class RunsTest {
             int sign = text.charAt(i);
             due("append(" + sign + ")", a -> a.append(sign), a -> a.append(sign));
         }
-        due("firstError()", FoldedVoices::firstError, PlainVoices::firstError);
+        // talk() may not lean on a firstError() ahead of it.
+        if (random.nextBoolean()) {
+            due("firstError()", FoldedVoices::firstError, PlainVoices::firstError);
+        }
         due("talk()", FoldedVoices::talk, PlainVoices::talk);
         if (random.nextBoolean()) {
             due("clearBuffer()", FoldedVoices::clearBuffer, PlainVoices::clearBuffer);

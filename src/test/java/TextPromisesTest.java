@@ -12,6 +12,7 @@ public final class TextPromisesTest {
         promise9();
         promise10();
         promise10EachCharacter();
+        promise10BeyondSamples();
         promise11();
         promise11Stops();
         promise11Throws();
@@ -54,7 +55,7 @@ public final class TextPromisesTest {
 
     private static void promise10() {
         String[] right = {"", "0", "2:", "1:-", "1:0", "0:-5", "0:10,", "0:5;", "d", "d0", "x2;", "l1;0:1,-20;d2",
-            "0:99999999999999999999999999999999", "0:2001,-2001", "0:0,0,0;x0"};
+            "0:2000,-2000", "2:1999,-1999,999,-1000;2:200", "1:200,2000;1:-200", "0:0,0,0;x0"};
         for (String text : right) {
             dueFirstError(text, text.length());
         }
@@ -71,10 +72,28 @@ public final class TextPromisesTest {
         dueFirstError(full, 60);
     }
 
+    /** What stands in a text are samples: a number beyond them is none, nor does one begin with it. */
+    private static void promise10BeyondSamples() {
+        Object[][] wrong = {{"0:2001", 5}, {"0:-2001", 6}, {"1:2010", 5}, {"2:2100", 5}, {"0:3000", 5}, {"0:-9999", 6},
+            {"0:20000", 6}, {"0:-20000", 7}, {"0:10000", 6}, {"0:19999", 6}, {"0:2001,5", 5}, {"0:1,2001;d0", 7},
+            {"d0;2:-2005", 9}, {"0:5;1:2009", 9}, {"0:4294967296", 5}, {"0:-4294967295", 6},
+            {"0:18446744073709551617", 6}, {"0:" + "9".repeat(58), 5}, {"0:2001;9", 5}};
+        for (Object[] row : wrong) {
+            dueFirstError((String) row[0], (Integer) row[1]);
+        }
+        for (int number = 0; number <= 21000; number++) {
+            String text = "1:" + number;
+            int fourDigits = number > 9999 ? number / 10 : number;
+            dueFirstError(text, fourDigits > 2000 ? 5 : number > 2000 ? 6 : text.length());
+        }
+    }
+
     private static void promise10EachCharacter() {
-        String[] heads = {"", "1", "1:", "1:-", "1:0", "1:7", "d", "d1", "d1;", "1:7,", "1:7;"};
+        String[] heads = {"", "1", "1:", "1:-", "1:0", "1:7", "d", "d1", "d1;", "1:7,", "1:7;",
+            "1:20", "1:199", "1:200", "1:-200", "1:201", "1:999", "1:1999", "1:2000", "1:-2000", "2:2000,200"};
         String[] next = {"012dlx", ":", "-0123456789", "123456789", ",;", "0123456789,;", "012", ";", "012dlx",
-            "-0123456789", "012dlx"};
+            "-0123456789", "012dlx",
+            "0123456789,;", "0123456789,;", "0,;", "0,;", ",;", ",;", ",;", ",;", ",;", "0,;"};
         for (int i = 0; i < heads.length; i++) {
             for (int sign = 33; sign <= 126; sign++) {
                 FoldedVoices x = Texts.typed(heads[i]);
@@ -134,10 +153,9 @@ public final class TextPromisesTest {
         CHECK.due("11: nothing to deliver", x.talk(), 0);
         CHECK.due("11: saved, though none is done", x.count(7), 1);
         CHECK.due("11: cleared, though none is done", x.clearBuffer(), 0);
-        Object[][] rows = {{"l0;0:1", 0}, {"x0;0:1", 0}, {"0:1;d0;0:2", 1}, {"0:2001,5", 0}, {"0:5,-2001,6", 1},
-            {"0:2000,-2000,0", 3}, {"0:4294967296,5", 0}, {"0:-4294967295,5", 0}, {"0:18446744073709551617", 0},
-            {"0:1,1,1,1;x0;d0", 4}, {"0:1,1,1,1;d1", 4}, {"0:1,1,1,1;l2", 4}, {"1:1,1,1,1;d1;d1", 5},
-            {"0:10000", 0}, {"0:99999", 0}};
+        Object[][] rows = {{"l0;0:1", 0}, {"x0;0:1", 0}, {"0:1;d0;0:2", 1}, {"0:5,-2000,6;d0", 3},
+            {"0:2000,-2000,0", 3},
+            {"0:1,1,1,1;x0;d0", 4}, {"0:1,1,1,1;d1", 4}, {"0:1,1,1,1;l2", 4}, {"1:1,1,1,1;d1;d1", 5}};
         for (Object[] row : rows) {
             FoldedVoices y = Texts.typed((String) row[0]);
             CHECK.due("11: deeds of " + row[0], y.talk(), (Integer) row[1]);
@@ -158,7 +176,9 @@ public final class TextPromisesTest {
     }
 
     private static void promise11Throws() {
-        String[] texts = {"", "0", "0:", "0:-", "0:5,", "0:5;", "d", "d0;", "d0;0", "0:-0", "3:1", "0:5 "};
+        String[] texts = {"", "0", "0:", "0:-", "0:5,", "0:5;", "d", "d0;", "d0;0", "0:-0", "3:1", "0:5 ",
+            "0:2001", "0:-2001", "0:2001,5", "0:5,-2001,6", "1:1;0:2001;d0", "0:10000", "0:99999", "0:4294967296,5",
+            "0:-4294967295,5", "0:18446744073709551617"};
         for (String text : texts) {
             FoldedVoices x = Texts.typed(text.trim());
             if (text.endsWith(" ")) {
