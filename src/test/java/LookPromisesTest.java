@@ -66,7 +66,7 @@ public final class LookPromisesTest {
         objects[3].say(1, 5);
         objects[3].keep();
         for (int i = 0; i < objects.length; i++) {
-            long due = hashOf(objects[i], i == 3, i == 2 ? "0:!" : "");
+            long due = Hash.of(objects[i], i == 3, i == 2 ? "0:!" : "");
             CHECK.due("26: digest of " + i, objects[i].digest(), due);
             CHECK.due("26: again", objects[i].digest(), due);
         }
@@ -89,7 +89,7 @@ public final class LookPromisesTest {
             int step = x.saying(1, 2);
             x.say(1, x.saying(1, 0) + step / 8 + (i % 16 == 0 ? 1 : 0));
             x.deliver(1);
-            CHECK.due("26: digest with small shares", x.digest(), hashOf(x, false, ""));
+            CHECK.due("26: digest with small shares", x.digest(), Hash.of(x, false, ""));
         }
         CHECK.note(x.meanError(1) > 0.0 && x.meanError(1) < 0.1, "26: the mean error should be small");
         CHECK.note(x.lostShare() < 0.1f, "26: the share should be small");
@@ -107,7 +107,7 @@ public final class LookPromisesTest {
             x.say(0, sample);
             if (x.settles(0, -500, 50) != x.settles(0, otherSample, otherNear)) {
                 seen++;
-                CHECK.due("26: digest near -500", x.digest(), hashOf(x, false, ""));
+                CHECK.due("26: digest near -500", x.digest(), Hash.of(x, false, ""));
             }
         }
         CHECK.note(seen > 0, "26: no guess tells " + otherSample + " and " + otherNear + " apart");
@@ -123,7 +123,7 @@ public final class LookPromisesTest {
             x.say(1, sample);
             x.say(1, sample);
             x.say(1, sample / 3);
-            CHECK.due("26: digest behind " + sample, x.digest(), hashOf(x, false, ""));
+            CHECK.due("26: digest behind " + sample, x.digest(), Hash.of(x, false, ""));
         }
     }
 
@@ -138,56 +138,7 @@ public final class LookPromisesTest {
             } else {
                 x.deliver(i % 3);
             }
-            CHECK.due("26: digest with shares", x.digest(), hashOf(x, false, ""));
+            CHECK.due("26: digest with shares", x.digest(), Hash.of(x, false, ""));
         }
-    }
-
-    private static long hash;
-
-    private static void mix(long value) {
-        hash = 31 * hash + value;
-    }
-
-    private static long hashOf(FoldedVoices x, boolean hasSnapshot, String buffer) {
-        hash = 3637;
-        for (int what = 0; what <= 7; what++) {
-            mix(x.count(what));
-        }
-        for (int setting = 0; setting <= 3; setting++) {
-            mix(x.setting(setting));
-        }
-        for (int voice = 0; voice < 3; voice++) {
-            mixVoice(x, voice);
-        }
-        mix(Float.floatToIntBits(x.lostShare()));
-        mix(hasSnapshot ? 1 : 0);
-        mix(buffer.length());
-        for (int i = 0; i < buffer.length(); i++) {
-            mix(buffer.charAt(i));
-        }
-        return hash;
-    }
-
-    private static void mixVoice(FoldedVoices x, int voice) {
-        for (int what = 0; what <= 9; what++) {
-            mix(x.saying(voice, what));
-        }
-        for (int what = 0; what <= 11; what++) {
-            mix(x.hearing(voice, what));
-        }
-        for (int rank = 0; rank < x.saying(voice, 9); rank++) {
-            for (int what = 0; what <= 5; what++) {
-                mix(x.packet(voice, rank, what));
-            }
-        }
-        mix(x.why(voice));
-        for (int what = 0; what <= 4; what++) {
-            mix(x.code(voice, 100, what));
-        }
-        mix(x.settles(voice, -500, 50));
-        for (int what = 0; what <= 3; what++) {
-            mix(x.ifDelivered(voice, what));
-        }
-        mix(Double.doubleToLongBits(x.meanError(voice)));
     }
 }
