@@ -6,6 +6,7 @@ final class Check {
 
     Check(String name) {
         this.name = name;
+        Watch.start(name);
     }
 
     void due(String what, long got, long want) {

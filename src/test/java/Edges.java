@@ -12,6 +12,7 @@ final class Edges {
 
     Edges(String name) {
         this.name = name;
+        Watch.start(name);
     }
 
     void edge(int promise, String words, Runnable test) {

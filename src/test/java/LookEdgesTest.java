@@ -235,6 +235,7 @@ public final class LookEdgesTest {
     }
 
     private static void hashesWithASnapshot() {
+        dueHash(Ends.sayingAt(15, 8), false, "");
         FoldedVoices x = new FoldedVoices();
         x.keep();
         dueHash(x, true, "");

@@ -9,6 +9,7 @@ public final class RefusedEdgesTest {
     private static final Class<IllegalArgumentException> ARGUMENT = IllegalArgumentException.class;
     private static final Class<IllegalStateException> STATE = IllegalStateException.class;
     private static final String NO_VOICE = "Throws `IndexOutOfBoundsException` if there is no such voice: ";
+    private static final String NO_WHAT = "Throws `IllegalArgumentException` if what is not 0 to ";
     private static final String NAMED_FIRST = "the one that is named first in the throws clause is thrown: ";
     private static final String LOOKS = "looks; nothing is changed: ";
     private static final Edges EDGES = new Edges("RefusedEdgesTest");
@@ -17,6 +18,7 @@ public final class RefusedEdgesTest {
     }
 
     public static void main(String[] args) {
+        voicesThatAre();
         noSuchVoices();
         refusedSamples();
         refusedOnTheWire();
@@ -64,9 +66,53 @@ public final class RefusedEdgesTest {
         EDGES.refused(promise, words + " (a new object)", RefusedEdgesTest::fresh, want, call);
     }
 
+    /** Just outside of 0 to the last, and far outside. */
+    private static int[] beyond(int last) {
+        return new int[] {-1, last + 1, Integer.MIN_VALUE, Integer.MAX_VALUE};
+    }
+
+    private interface InVoice {
+        double call(FoldedVoices x, int voice);
+    }
+
+    private static void voicesThatAre() {
+        accepted(2, "say", (x, voice) -> x.say(voice, 14));
+        accepted(3, "flush", FoldedVoices::flush);
+        accepted(4, "deliver", FoldedVoices::deliver);
+        accepted(5, "lose", FoldedVoices::lose);
+        accepted(6, "swap", FoldedVoices::swap);
+        accepted(15, "saying", (x, voice) -> x.saying(voice, 9));
+        accepted(16, "hearing", (x, voice) -> x.hearing(voice, 11));
+        accepted(17, "packet", (x, voice) -> x.packet(voice, 1, 5));
+        accepted(18, "why", FoldedVoices::why);
+        accepted(21, "code", (x, voice) -> x.code(voice, 2000, 4));
+        accepted(22, "settles", (x, voice) -> x.settles(voice, -2000, 2000));
+        accepted(23, "ifDelivered", (x, voice) -> x.ifDelivered(voice, 3));
+        accepted(24, "meanError", FoldedVoices::meanError);
+    }
+
+    /** In each voice two packets wait and a code is gathered. */
+    private static void threeVoices(FoldedVoices x) {
+        x.set(2, 2);
+        for (int voice = 0; voice < 3; voice++) {
+            for (int i = 0; i < 5; i++) {
+                x.say(voice, 100 * i);
+            }
+        }
+    }
+
+    private static void accepted(int promise, String method, InVoice call) {
+        EDGES.edge(promise, "There are 3 voices, numbered from 0: " + method, () -> {
+            double first = call.call(Twins.gone(RefusedEdgesTest::threeVoices), 0);
+            for (int voice = 1; voice < 3; voice++) {
+                double other = call.call(Twins.gone(RefusedEdgesTest::threeVoices), voice);
+                EDGES.dueDouble("the answer in the voice " + voice + ", as in the voice 0", other, first);
+            }
+        });
+    }
+
     private static void noSuchVoices() {
-        int[] wrong = {-1, 3, Integer.MIN_VALUE, Integer.MAX_VALUE};
-        for (int voice : wrong) {
+        for (int voice : beyond(2)) {
             refused(2, NO_VOICE + voice, INDEX, x -> x.say(voice, 0));
             refused(3, NO_VOICE + voice, INDEX, x -> x.flush(voice));
             refused(4, NO_VOICE + voice, INDEX, x -> x.deliver(voice));
@@ -117,8 +163,7 @@ public final class RefusedEdgesTest {
             refused(7, words + ", too little", ARGUMENT, x -> x.set(setting, least[setting] - 1));
             refused(7, words + ", too much", ARGUMENT, x -> x.set(setting, most[setting] + 1));
         }
-        int[] wrong = {-1, 4, Integer.MIN_VALUE, Integer.MAX_VALUE};
-        for (int setting : wrong) {
+        for (int setting : beyond(3)) {
             String words = "Throws `IndexOutOfBoundsException` if there is no such setting: " + setting;
             refused(7, words, INDEX, x -> x.set(setting, 1));
             refused(20, words, INDEX, x -> x.setting(setting));
@@ -164,17 +209,19 @@ public final class RefusedEdgesTest {
     }
 
     private static void refusedLooks() {
-        int[] last = {9, 11, 5, 7};
-        int[] beyond = {-1, 1, Integer.MIN_VALUE, Integer.MAX_VALUE};
-        for (int by : beyond) {
-            String words = "Throws `IllegalArgumentException` if what is not 0 to ";
-            refused(15, words + "9: " + by, ARGUMENT, x -> x.saying(1, by == 1 ? last[0] + 1 : by));
-            refused(16, words + "11: " + by, ARGUMENT, x -> x.hearing(1, by == 1 ? last[1] + 1 : by));
-            refused(17, words + "5: " + by, ARGUMENT, x -> x.packet(1, 0, by == 1 ? last[2] + 1 : by));
-            refused(19, words + "7: " + by, ARGUMENT, x -> x.count(by == 1 ? last[3] + 1 : by));
+        for (int what : beyond(9)) {
+            refused(15, NO_WHAT + "9: " + what, ARGUMENT, x -> x.saying(1, what));
         }
-        int[] ranks = {-1, 8, Integer.MIN_VALUE, Integer.MAX_VALUE};
-        for (int rank : ranks) {
+        for (int what : beyond(11)) {
+            refused(16, NO_WHAT + "11: " + what, ARGUMENT, x -> x.hearing(1, what));
+        }
+        for (int what : beyond(5)) {
+            refused(17, NO_WHAT + "5: " + what, ARGUMENT, x -> x.packet(1, 0, what));
+        }
+        for (int what : beyond(7)) {
+            refused(19, NO_WHAT + "7: " + what, ARGUMENT, x -> x.count(what));
+        }
+        for (int rank : beyond(7)) {
             refused(17, "Throws `IndexOutOfBoundsException` if there is no such voice or rank: " + rank, INDEX,
                     x -> x.packet(1, rank, 0));
         }
@@ -183,8 +230,7 @@ public final class RefusedEdgesTest {
     }
 
     private static void refusedLooksAhead() {
-        int[] wrongWhat = {-1, 5, Integer.MIN_VALUE, Integer.MAX_VALUE};
-        for (int what : wrongWhat) {
+        for (int what : beyond(4)) {
             refused(21, "Throws `IllegalArgumentException` if sample or what is out of range: what " + what, ARGUMENT,
                     x -> x.code(0, 0, what));
         }
@@ -193,10 +239,8 @@ public final class RefusedEdgesTest {
             refused(22, "Throws `IllegalArgumentException` if sample or near is out of range: near " + near, ARGUMENT,
                     x -> x.settles(0, 0, near));
         }
-        int[] wrong = {-1, 4, Integer.MIN_VALUE, Integer.MAX_VALUE};
-        for (int what : wrong) {
-            refused(23, "Throws `IllegalArgumentException` if what is not 0 to 3: " + what, ARGUMENT,
-                    x -> x.ifDelivered(0, what));
+        for (int what : beyond(3)) {
+            refused(23, NO_WHAT + "3: " + what, ARGUMENT, x -> x.ifDelivered(0, what));
         }
     }
 
@@ -227,7 +271,9 @@ public final class RefusedEdgesTest {
             only(16, LOOKS + "hearing of " + voice, x -> eachOf(11, what -> x.hearing(voice, what)));
             only(18, LOOKS + "why of " + voice, x -> x.why(voice));
         }
-        only(10, "Finds the first syntax error (and changes nothing)", FoldedVoices::firstError);
+        only(10, "Finds the first syntax error of the buffer. (and changes nothing)", FoldedVoices::firstError);
+        EDGES.onlyLooks(10, "Finds the first syntax error of the buffer. (there is one, and it stays)",
+                x -> Texts.type(x, "0:5!d0"), FoldedVoices::firstError);
         only(17, LOOKS + "packet", x -> eachOf(5, what -> x.packet(1, 7, what)));
         only(19, LOOKS + "count", x -> eachOf(7, x::count));
         only(20, LOOKS + "setting", x -> eachOf(3, x::setting));

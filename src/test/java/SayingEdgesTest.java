@@ -461,11 +461,11 @@ public final class SayingEdgesTest {
         FoldedVoices x = new FoldedVoices();
         x.set(2, 1);
         x.set(3, 9);
-        saidIn(x, 0, 14, 14, 14, 14);
-        x.set(3, 2);
         saidIn(x, 0, 14, 14, 14);
-        // The fourth one behind the head of 0 is more than enough; then they are counted from it.
-        int[] heads = {1, 0, 0, 0, 1, 0, 1};
+        x.set(3, 2);
+        saidIn(x, 0, 14, 14, 14, 14);
+        // The third one behind the head of 0 is more than enough; then they are counted from it.
+        int[] heads = {1, 0, 0, 1, 0, 1, 0};
         for (int rank = 0; rank < heads.length; rank++) {
             EDGES.due("the head of " + rank, x.packet(0, rank, 2), heads[rank]);
         }
@@ -726,14 +726,14 @@ public final class SayingEdgesTest {
         FoldedVoices x = new FoldedVoices();
         x.set(2, 8);
         x.set(3, 9);
-        for (int i = 1; i <= 167; i++) {
+        for (int i = 1; i <= 119; i++) {
             x.say(0, i * 677 % 4001 - 2000);
             EDGES.due("the guess behind code " + i, x.saying(0, 8), x.saying(0, 0));
             if (x.saying(0, 9) > 0) {
                 x.lose(0);
             }
         }
-        EDGES.due("packets", x.saying(0, 6), 20);
+        EDGES.due("packets", x.saying(0, 6), 14);
     }
 
     private static void headsOfLostPackets() {

@@ -286,9 +286,9 @@ public final class SayingPromisesTest {
         boolean[] seen = new boolean[25];
         FoldedVoices x = new FoldedVoices();
         x.set(2, 8);
-        for (int i = 0; i < 120; i++) {
+        for (int i = 0; i < 100; i++) {
             int far = i % 40 < 4 ? 2000 : 0;
-            x.say(0, i >= 80 ? Math.min(2000, x.saying(0, 0) + x.saying(0, 2)) : far);
+            x.say(0, i >= 70 ? Math.min(2000, x.saying(0, 0) + x.saying(0, 2)) : far);
             int index = x.saying(0, 1);
             seen[index] = true;
             CHECK.due("15: the step of the index " + index, x.saying(0, 2), steps[index]);

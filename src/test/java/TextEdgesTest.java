@@ -253,9 +253,10 @@ public final class TextEdgesTest {
 
     private static void fullAndGoingOn() {
         String more = FULL.substring(0, 58);
-        dueRight(more + ",1", more + ",-", more + ";d", more + ";0");
-        dueRight(more + ";x");
-        EDGES.due("60 characters", (more + ";d").length(), 60);
+        dueRight(more + ",1", more + ",-", more + ";d", more + ";0", more + ";x");
+        String all = "0:1" + ",1".repeat(28);
+        dueRight(all + ",", all + ";", all + "0", FULL.substring(0, 56) + ";d1;");
+        EDGES.due("60 characters", (all + ",").length(), 60);
     }
 
     private static void firstOfSeveral() {

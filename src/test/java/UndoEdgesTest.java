@@ -374,6 +374,10 @@ public final class UndoEdgesTest {
         EDGES.edge(14, "Restores the latest saved state (and all goes on as if nothing had been)",
                 UndoEdgesTest::goesOnAsIfNothingHadBeen);
         EDGES.edge(13, "Goes back to the snapshot (and all goes on as from there)", UndoEdgesTest::goesOnAsFromTheSnapshot);
+        EDGES.edge(14, "Restores the latest saved state (all places of the wire were taken, and taken again)",
+                UndoEdgesTest::wiresComeBack);
+        EDGES.edge(13, "Goes back to the snapshot, which stays. (all places of the wire were taken, and taken again)",
+                UndoEdgesTest::keptWiresComeBack);
     }
 
     private static void countsComeBack() {
@@ -430,6 +434,57 @@ public final class UndoEdgesTest {
         Texts.type(x, "1:-900,800,3,4,5;d1;d1;2:5,5,5;l2;x2;0:1,2,3;d0");
         x.talk();
         x.flush(1);
+    }
+
+    private static FoldedVoices withFullWire() {
+        FoldedVoices x = new FoldedVoices();
+        x.set(2, 1);
+        x.set(3, 2);
+        for (int i = 0; i < 8; i++) {
+            x.say(1, 300 * i - 900);
+        }
+        return x;
+    }
+
+    private static void wiresComeBack() {
+        List<Consumer<FoldedVoices>> deeds = List.of(x -> x.lose(1), x -> x.deliver(1), x -> x.swap(1));
+        for (Consumer<FoldedVoices> deed : deeds) {
+            FoldedVoices x = withFullWire();
+            long before = x.digest();
+            deed.accept(x);
+            x.lose(1);
+            x.say(1, 1234);
+            x.lose(1);
+            x.say(1, -1234);
+            for (int i = 0; i < 5; i++) {
+                x.undo();
+            }
+            EDGES.due("saved", x.count(7), 1);
+            x.set(0, 1);
+            x.set(0, 1);
+            x.set(0, 1);
+            x.set(0, 1);
+            x.set(0, 1);
+            EDGES.due("the digest", x.digest(), before);
+        }
+    }
+
+    private static void keptWiresComeBack() {
+        FoldedVoices x = withFullWire();
+        x.keep();
+        long kept = x.digest();
+        for (int i = 0; i < 10; i++) {
+            x.lose(1);
+            x.say(1, 100 * i);
+        }
+        x.goBack();
+        EDGES.due("the digest", x.digest(), kept);
+        for (int i = 0; i < 10; i++) {
+            x.deliver(1);
+            x.say(1, -100 * i);
+        }
+        x.goBack();
+        EDGES.due("the digest again", x.digest(), kept);
     }
 
     private static void goesOnAsIfNothingHadBeen() {

@@ -448,6 +448,7 @@ public final class WireEdgesTest {
                 WireEdgesTest::errorsOnBothSides);
         EDGES.edge(16, "9: the greatest error so far, 0 without codes", WireEdgesTest::greatestErrors);
         EDGES.edge(16, "10: the sum of what was heard so far (below 0, and far)", WireEdgesTest::farSums);
+        EDGES.edge(16, "8: the sum of the errors so far (far)", WireEdgesTest::farErrors);
         EDGES.edge(16, "4: codes heard so far (without late ones, and without lost ones)", WireEdgesTest::codesThatWereHeard);
         EDGES.edge(16, "`what`: 0: its guess; .. 11: packets lost so far", WireEdgesTest::allOfHearing);
     }
@@ -463,6 +464,13 @@ public final class WireEdgesTest {
             EDGES.due("the error of " + row[0], x.hearing(0, 8), row[1]);
             EDGES.due("the greatest error", x.hearing(0, 9), row[1]);
         }
+        FoldedVoices y = new FoldedVoices();
+        y.set(0, 2);
+        y.set(2, 1);
+        y.say(0, 7);
+        y.say(0, -5);
+        y.deliver(0);
+        EDGES.due("the mean of 7 and -5 is heard as 1", y.hearing(0, 8), 0);
     }
 
     private static void greatestErrors() {
@@ -487,18 +495,39 @@ public final class WireEdgesTest {
         x.set(2, 8);
         long heard = 0;
         long errors = 0;
-        for (int round = 0; round < 30; round++) {
+        for (int round = 0; round < 28; round++) {
             for (int i = 0; i < 8; i++) {
                 x.say(0, -2000);
-                heard += x.saying(0, 0);
-                errors += x.saying(0, 0) + 2000;
+                int guess = x.saying(0, 0);
+                heard += guess;
+                errors += guess + 2000;
             }
             x.deliver(0);
         }
-        EDGES.due("codes", x.hearing(0, 4), 240);
+        EDGES.due("codes", x.hearing(0, 4), 224);
         EDGES.due("the sum of what was heard", x.hearing(0, 10), heard);
         EDGES.due("the sum of the errors", x.hearing(0, 8), errors);
         EDGES.note(heard < -400000, "the sum should be far below 0");
+    }
+
+    private static void farErrors() {
+        FoldedVoices x = new FoldedVoices();
+        x.set(2, 8);
+        long errors = 0;
+        long greatest = 0;
+        for (int round = 0; round < 28; round++) {
+            for (int i = 0; i < 8; i++) {
+                int sample = i % 2 == 0 ? 2000 : -2000;
+                x.say(0, sample);
+                long error = Math.abs(x.saying(0, 0) - sample);
+                errors += error;
+                greatest = Math.max(greatest, error);
+            }
+            x.deliver(0);
+        }
+        EDGES.due("the sum of the errors", x.hearing(0, 8), errors);
+        EDGES.due("the greatest error", x.hearing(0, 9), greatest);
+        EDGES.note(errors > 100000, "the sum should be far");
     }
 
     private static void codesThatWereHeard() {
